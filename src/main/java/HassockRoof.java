@@ -906,11 +906,11 @@ public final class HassockRoof {
         }
 
         int one(int i) {
-            return has(i) ? ones[i] : 0;
+            return i >= 0 && i < size ? ones[i] : 0;
         }
 
         int other(int i) {
-            return has(i) ? others[i] : 0;
+            return i >= 0 && i < size ? others[i] : 0;
         }
 
         boolean hasPair(int one, int other) {
@@ -1455,8 +1455,8 @@ public final class HassockRoof {
         }
 
         /**
-         * A MARK's worth goes to the first in the order of the PLACES that see it, and each of these
-         * is as likely the first: all have equal parts. 60 is divided by each of 1 .. 6.
+         * A MARK's worth goes to the first in the order of the PLACES that see it, and each of
+         * these is as likely the first: all have equal parts. 60 is divided by each of 1 .. 6.
          */
         int sixtiethsOfShare(int place) {
             int sum = 0;
@@ -1510,7 +1510,7 @@ public final class HassockRoof {
             }
         }
 
-        /** From the start to the last YEAR, moved by a LAW behind the YEARS that are bits of moved. */
+        /** From the start to the last YEAR, moved by a LAW in YEARS that are bits of moved. */
         void run(int law, int moved) {
             for (int y = 0; y < roof.years && y < MOST_YEARS; y++) {
                 exchangeIn(y);
@@ -1583,8 +1583,8 @@ public final class HassockRoof {
             }
             int least = NONE;
             for (int l = 0; l < roof.lookers.size; l++) {
-                boolean isLess = least == NONE || sight.worthFrom(row[l]) < sight.worthFrom(row[least]);
-                if (l != most && isLess) {
+                if (l != most && (least == NONE
+                        || sight.worthFrom(row[l]) < sight.worthFrom(row[least]))) {
                     least = l;
                 }
             }
