@@ -69,14 +69,12 @@ final class BookTest {
         Check.fill(x, 0, 0);
         Check.due("ask year 0", x.ask(0, 0), 0);
         Check.due("leaves one", x.leaves(0, 0), 1);
-        // Exchanged in year 0 and told apart later.
-        x = Check.told("roof years 3 law 3 odds 0;place 0 0;place 2 0;place 4 0;mark 0 2 worth 1;mark 2 2 worth 1;"
-                + "flue 0 1;flue 2 1;looker at 0 hopes 0;looker at 1 hopes 1;looker at 2 hopes 0;");
+        // By law 2 two alone change places each year: the last year undoes the exchange.
+        x = Check.told(Check.SMALL.replace("law 0", "law 2").replace("years 3", "years 1"));
         x.swap(0, 1, 0);
-        x.swap(0, 1, 1);
         Check.fill(x, 0, 0);
-        int worst = x.leaves(0, 0);
-        Check.holds("leaves at worst what the year asked tells", worst >= 1 && worst <= 3);
+        Check.due("ask the last year", x.ask(0, 0), 1);
+        Check.due("leaves one", x.leaves(0, 0), 1);
     }
 
     private static void wrongBooks() {

@@ -51,6 +51,10 @@ final class SlotTest {
         Check.due("shifts", x.shifts(0), 1);
         x.row(0, 0, 2);
         Check.due("all 0 anew", x.shifts(0), -2);
+        x.write(0, 0, 2);
+        x.row(0, 0, 2);
+        x.write(0, 1, 1);
+        Check.due("the first is 0 anew: 0, 1", x.shifts(0), 0);
     }
 
     private static void pastes() {

@@ -70,9 +70,13 @@ final class TapeTest {
         Check.due("bare", Check.tell(x, Check.BARE), 1);
         Check.due("no places of the other", x.count(3), 0);
         Check.due("blind", x.blind(), 0);
+        Check.tell(x, Check.SMALL.replace("law 0", "law 2"));
+        x.clear(0);
         Check.due("blanks alone", Check.tell(x, " \n  "), 0);
         Check.due("none then", x.blind(), -2);
-        Check.due("no years", x.count(0), 0);
+        for (int what = 0; what <= 11; what++) {
+            Check.due("count(" + what + ") without a roof", x.count(what), 0);
+        }
         Check.due("fault(0)", x.fault(0), 0);
     }
 

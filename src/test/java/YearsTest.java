@@ -53,19 +53,12 @@ final class YearsTest {
         Check.due("life(0) then", x.life(0), 14 + 0 + 0 + 12);
         Check.due("life(1) then", x.life(1), 2 + 12 + 0 + 0);
         Check.due("sad then", x.sad(), 1);
-        x.anew();
-        // In the last year more is new than at first.
-        Check.tell(x, "roof years 3 law 0 odds 0;place 0 0;place 2 0;place 4 0;place 6 0;mark 6 9 worth 9;"
-                + "mark 0 2 worth 1;flue 0 1;flue 3 3;flue 2 6;flue 5 6;flue 4 3;looker at 1 hopes 0;");
-        Check.holds("feast is the year of most joy", mostJoy(x) == x.feast());
-    }
-
-    private static int mostJoy(HassockRoof x) {
-        int best = 0;
-        for (int y = 0; y <= x.count(0); y++) {
-            best = x.joy(0, y) > x.joy(0, best) ? y : best;
-        }
-        return best;
+        // One alone from place 0: joys 2, 12, 0, 0, 12.
+        String alone = Check.SMALL.replace("looker at 1 hopes 1;", "");
+        Check.tell(x, alone.replace("years 3", "years 4"));
+        Check.due("feast is the first of several", x.feast(), 1);
+        Check.tell(x, alone.replace("years 3", "years 1"));
+        Check.due("feast is the last year", x.feast(), 1);
     }
 
     private static void hopes() {
