@@ -86,12 +86,10 @@ public final class HassockRoof {
     }
 
     public int roof() {
-        boolean right = reader.readRoof();
-        // A faulty text is gone from the TAPE too: the next one is fed from its start.
-        reader.length = 0;
-        if (!right) {
+        if (!reader.readRoof()) {
             return FAULTY;
         }
+        reader.length = 0;
         now.copyFrom(draft);
         lookAnew();
         return now.lines;

@@ -64,7 +64,15 @@ final class TapeTest {
         Check.due("fault(1)", x.fault(1), 11);
         Check.due("all stays: places", x.count(3), 3);
         Check.due("all stays: acts", x.count(8), 1);
-        Check.due("the tape is empty behind a fault too", x.count(10), 0);
+        Check.due("all stays: the tape", x.count(10), 27);
+        Check.due("the same fault again", x.roof(), -4);
+        Check.due("cut ahead of it: the end's fault", x.end(10), 10);
+        Check.due("roof", x.roof(), -4);
+        Check.due("fault(0)", x.fault(0), 1);
+        Check.due("fault(1)", x.fault(1), 10);
+        Check.feedText(x, " 1 law 0 odds 0;");
+        Check.due("mended behind what stayed", x.roof(), 1);
+        Check.due("years", x.count(0), 1);
         Check.due("in place of another", Check.tell(x, Check.SMALL), 13);
         Check.due("nothing done", x.count(8), 0);
         Check.due("bare", Check.tell(x, Check.BARE), 1);
