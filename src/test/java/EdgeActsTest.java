@@ -25,6 +25,7 @@ final class EdgeActsTest {
         countsOfTheMost();
         countOfOthers();
         imagesAreThree();
+        imagesStayBehindRefusals();
         imageOfNothing();
         imageKeepsThirtyActs();
         imageInPlaceOfAnother();
@@ -223,6 +224,18 @@ final class EdgeActsTest {
                 }
             }
         }
+    }
+
+    /** What IMAGES have stays behind calls that are refused. */
+    private static void imagesStayBehindRefusals() {
+        String[] refused = {"image(-1) -> -2", "image(3) -> -2", "back(-1) -> -2", "back(3) -> -2"};
+        for (String row : refused) {
+            HassockRoof x = Runs.of(SIX, "image(0)", "clear(0)", "image(1)", "clear(1)", "image(2)", "clear(2)").get();
+            Runs.run(x, row, "count(8) -> 3", "back(2) -> 0", "count(8) -> 2", "back(1) -> 0", "count(8) -> 1",
+                    "back(0) -> 0", "count(8) -> 0");
+        }
+        HassockRoof x = Runs.of(SIX, "image(1)", "clear(0)").get();
+        Runs.run(x, "back(0) -> -6", "back(2) -> -6", "back(0) -> -6", "count(8) -> 1", "back(1) -> 0", "count(8) -> 0");
     }
 
     private static void imageOfNothing() {

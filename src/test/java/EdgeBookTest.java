@@ -21,6 +21,8 @@ final class EdgeBookTest {
         firstsOfOneExchanged();
         askLeavesFewer();
         askTheFirstOfSeveral();
+        askTheLastYear();
+        leavesAskedFirst();
         lawsOneByOne();
         lawsWithActs();
         byEachLaw();
@@ -206,6 +208,28 @@ final class EdgeBookTest {
         x.swap(0, 1, 1);
         Check.fill(x, 0, 0);
         all(x, 0, 0, 63, 0, 1, 15);
+    }
+
+    /** Exchanged in each YEAR ahead of the last, and changed back by law 2: the last one alone tells all. */
+    private static void askTheLastYear() {
+        for (int years = 1; years <= 12; years += 11) {
+            HassockRoof x = Check.told(Cells.of(years, 2, 0, "at 0 hopes 0", "at 1 hopes 1"));
+            for (int y = 0; y < years; y++) {
+                x.swap(0, 1, y);
+            }
+            Check.fill(x, 0, 0);
+            for (int i = 0; i < 3; i++) {
+                Runs.run(x, "ask(0, 0) -> " + years, "leaves(0, 0) -> 1", "ask(0, 1) -> " + years, "leaves(0, 1) -> 1");
+            }
+        }
+    }
+
+    private static void leavesAskedFirst() {
+        HassockRoof x = Check.told(ALONE);
+        Check.fill(x, 0, 0);
+        Runs.run(x, "leaves(0, 0) -> 1");
+        x = Runs.of(Cells.of(12, 0, 0, "at 0 hopes 0", "at 1 hopes 1"), "swap(0, 1, 0)", "row(0, 0, 0)").get();
+        Runs.run(x, "leaves(0, 0) -> 5", "leaves(0, 0) -> 5");
     }
 
     private static void lawsOneByOne() {

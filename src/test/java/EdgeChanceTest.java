@@ -163,6 +163,18 @@ final class EdgeChanceTest {
         chance(x, 0, 0, 3, 1, 1);
         Runs.run(x, "swap(1, 0, 0) -> 3");
         chance(x, 0, 0, 1, 1, 1);
+        // They are moved for sure, or as likely as not, and exchanged in each case.
+        x = Check.told(Cells.of(3, 0, 10, "at 0 hopes 0", "at 3 hopes 0"));
+        Runs.run(x, "swap(0, 1, 1) -> 0");
+        chance(x, 0, 4, 1, 1, 1);
+        chance(x, 1, 1, 1, 1, 1);
+        chance(x, 0, 5, 2, 1, 1);
+        x = Check.told(Cells.of(3, 0, 5, "at 0 hopes 0", "at 3 hopes 0"));
+        Runs.run(x, "swap(0, 1, 1) -> 0");
+        chance(x, 0, 3, 1, 1, 2);
+        chance(x, 0, 4, 1, 1, 2);
+        chance(x, 0, 4, 2, 1, 2);
+        Runs.run(x, "mean(0, 1, 0) -> 45", "mean(0, 1, 1) -> 1");
     }
 
     private static void meanBeyondAnInt() {

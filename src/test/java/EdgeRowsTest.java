@@ -33,6 +33,9 @@ final class EdgeRowsTest {
 
     private static void rosterOfAll() {
         HassockRoof x = Check.told(Cells.of(1, 0, 0, Cells.six(1)));
+        // Each asked first, on an object of its own, and behind the others.
+        Runs.run(Check.told(Cells.of(1, 0, 0, Cells.six(1))), "put(0) -> 1");
+        Runs.run(Check.told(Cells.of(1, 0, 0, Cells.six(1))), "rosters() -> 1");
         Runs.run(x, "roster() -> 6", "rosters() -> 1");
         for (int l = 0; l < 6; l++) {
             Runs.run(x, "put(" + l + ") -> " + (l + 1) % 6);
@@ -199,10 +202,14 @@ final class EdgeRowsTest {
     private static void shiftsAllTheWay() {
         goal(onPath("at 0 hopes 0"), 5, 0, 5);
         goal(onPath("at 5 hopes 0"), 5, 0, 0);
+        goal(onPath("at 1 hopes 0"), 1, 0, 0);
+        goal(onPath("at 4 hopes 0"), 1, 0, 5);
         goal(onPath("at 0 hopes 0", "at 1 hopes 0"), 8, 1, 4, 5);
         goal(onPath("at 0 hopes 0", "at 1 hopes 0", "at 2 hopes 0", "at 3 hopes 0", "at 4 hopes 0"), 5, 4, 1, 2, 3, 4, 5);
         Runs.run(Check.told(onPath("at 0 hopes 0")), "reach() -> 6", "far() -> 5");
         Runs.run(Check.told(onPath("at 2 hopes 0")), "reach() -> 6", "far() -> 3");
+        Runs.run(Check.told(onPath("at 2 hopes 0")), "far() -> 3", "row(0, 0, 1) -> 0", "shifts(0) -> 2", "far() -> 3",
+                "reach() -> 6");
         Runs.run(Check.told(onPath("at 0 hopes 0", "at 1 hopes 0")), "reach() -> 15", "far() -> 8");
         Runs.run(Check.told(onPath("at 0 hopes 0", "at 1 hopes 0", "at 2 hopes 0", "at 3 hopes 0", "at 4 hopes 0")),
                 "reach() -> 6", "far() -> 5");

@@ -229,6 +229,13 @@ final class EdgeYearsTest {
         Runs.run(x, "feast() -> 5", "rate(0, 60) -> 10", "feast() -> 0");
         x = Check.told(Cells.of(5, 0, 0, "at 0 hopes 0"));
         Runs.run(x, "feast() -> 5");
+        x = Check.told(Cells.of(1, 0, 0, "at 0 hopes 0"));
+        Runs.run(x, "feast() -> 1");
+        // Of all together: 60 and 10, 10 and 20, 20 and 30, 30 and 40, though each alone has most in another year.
+        x = Check.told(Cells.of(3, 0, 0, "at 5 hopes 0", "at 0 hopes 0"));
+        Runs.run(x, "feast() -> 0", "rate(5, 59) -> 60", "feast() -> 3");
+        x = Check.told(Cells.of(2, 0, 0, "at 0 hopes 0", "at 2 hopes 0", "at 4 hopes 0"));
+        Runs.run(x, "feast() -> 1", "rate(3, 0) -> 40", "feast() -> 0");
         x = Check.told(Cells.worth(12, 0, 0, new int[7], "at 0 hopes 0"));
         Runs.run(x, "feast() -> 0");
     }
@@ -263,6 +270,9 @@ final class EdgeYearsTest {
         Runs.run(Check.told(Cells.of(1, 0, 0, "at 0 hopes 1")), "trade(0) -> -1");
         Runs.run(Check.told(Cells.of(1, 0, 0, Cells.six(0))), "trade(0) -> -1");
         Runs.run(Check.told(Cells.of(1, 0, 0, "at 0 hopes 6", "at 1 hopes 6")), "trade(0) -> -1");
+        // With nobody at the other place, who would hope for the other mark.
+        Runs.run(Check.told(Check.BARE + "place 0 0;place 3 0;mark 4 0 worth 5;mark 1 0 worth 5;flue 2 0;"
+                + "looker at 1 hopes 1;"), "sees(0) -> 2", "sees(1) -> 1", "trade(0) -> -1");
     }
 
     private static void noLookers() {
