@@ -31,6 +31,7 @@ final class EdgeActsTest {
         imageInPlaceOfAnother();
         imageStaysAsItWas();
         backLeavesTheRest();
+        theCallOf512();
         Check.finish();
     }
 
@@ -273,6 +274,20 @@ final class EdgeActsTest {
         Check.tell(x, Check.BARE);
         Runs.run(x, "count(3) -> 0", "back(2) -> 0", "count(3) -> 6", "mark(0, 2) -> 77", "undo() -> 0", "at(0, 0) -> 0",
                 "rate(0, 1) -> 77", "back(2) -> 0", "undo() -> 0", "mark(0, 2) -> 77");
+    }
+
+    /** "at most 512 calls": the last of them is answered as the first. */
+    private static void theCallOf512() {
+        HassockRoof x = Check.told(SIX);
+        // To tell a text takes its feeds, and count, end, roof.
+        int calls = (SIX.length() + 19) / 20 + 3;
+        for (; calls + 4 <= 511; calls += 4) {
+            Runs.run(x, "clear(0) -> 1", "sees(0) -> 3", "undo() -> 0", "sees(0) -> 1");
+        }
+        for (; calls < 511; calls++) {
+            Runs.run(x, "at(0, 3) -> 0");
+        }
+        Runs.run(x, "swap(0, 1, 2) -> 0");
     }
 
     /** TAPE, SLOTS and the latest FAULT are no part of it. */

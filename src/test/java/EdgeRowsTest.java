@@ -229,7 +229,7 @@ final class EdgeRowsTest {
     private static void reachOfNoWays() {
         for (int n = 0; n <= 6; n++) {
             HassockRoof x = Check.told(Cells.of(1, 0, 0, Arrays.copyOf(Cells.six(0), n)));
-            Runs.run(x, "reach() -> 1", "far() -> 0");
+            Runs.run(x, "reach() -> 1", "far() -> 0", "ways(0) -> 0", "ways(5) -> 0");
         }
     }
 
@@ -244,7 +244,7 @@ final class EdgeRowsTest {
         // All ways from one place and one more: every row can be come to.
         String star = Cells.of(1, 0, 0, "at 1 hopes 0", "at 2 hopes 0", "at 3 hopes 0", "at 4 hopes 0", "at 5 hopes 0")
                 + "way 0 1;way 0 2;way 0 3;way 0 4;way 0 5;";
-        Runs.run(Check.told(star), "reach() -> 6", "far() -> 1");
+        Runs.run(Check.told(star), "reach() -> 6", "far() -> 1", "ways(0) -> 62", "ways(5) -> 1");
         Runs.run(Check.told(star + "way 1 2;way 3 4;way 2 3;way 4 5;way 5 1;"), "reach() -> 720");
     }
 
