@@ -86,10 +86,12 @@ public final class HassockRoof {
     }
 
     public int roof() {
-        if (!reader.readRoof()) {
+        boolean right = reader.readRoof();
+        // What stays behind a FAULT is the ROOF with its acts: the TAPE is empty then in any case.
+        reader.length = 0;
+        if (!right) {
             return FAULTY;
         }
-        reader.length = 0;
         now.copyFrom(draft);
         lookAnew();
         return now.lines;

@@ -294,6 +294,7 @@ final class EdgeActsTest {
     private static void backLeavesTheRest() {
         HassockRoof x = Runs.of(SIX, "image(0)", "row(2, 1, 6)").get();
         Check.tell(x, "roof years 13");
+        Check.feedText(x, "roof years 12");
         Runs.run(x, "clear(0) -> 1", "write(2, 5, 9) -> 0", "back(0) -> 0", "count(8) -> 0", "count(10) -> 13",
                 "count(11) -> 1", "fault(0) -> 2", "fault(1) -> 11", "end(0) -> 0", "count(10) -> 0", "image(1) -> 0");
         Check.feedText(x, Check.BARE);

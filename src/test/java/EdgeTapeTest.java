@@ -21,7 +21,8 @@ final class EdgeTapeTest {
         roofInPlaceOfAnother();
         roofGone();
         roofRefused();
-        roofMendedBehindAFault();
+        roofEmptiesTheTapeBehindAFault();
+        faultsOneBehindTheOther();
         faultAheadOfAny();
         faultOfTheLatest();
         faultOfAnotherWhat();
@@ -143,10 +144,9 @@ final class EdgeTapeTest {
         Runs.run(x, "looker(5, 1) -> 5", "count(10) -> 0");
         Check.due("its last sign is missing", Check.tell(x, blanks + " " + Runs.FULL.substring(0, Runs.FULL.length() - 1)),
                 -4);
-        Runs.run(x, "fault(0) -> 1", "fault(1) -> 700", "count(10) -> 700");
-        x.end(699);
-        Check.due("a byte too much at the end", Check.tell(x, "!"), -4);
-        Runs.run(x, "fault(0) -> 1", "fault(1) -> 699", "end(0) -> 0");
+        Runs.run(x, "fault(0) -> 1", "fault(1) -> 700", "count(10) -> 0");
+        Check.due("a byte too much at the end", Check.tell(x, Runs.FULL + blanks.substring(1) + "!"), -4);
+        Runs.run(x, "fault(0) -> 1", "fault(1) -> 699", "count(10) -> 0");
         Check.due("a number of zeros", Check.tell(x, "roof years " + "0".repeat(600) + "12 law 0 odds 0;"), 1);
         Runs.run(x, "count(0) -> 12");
         Check.due("a long word", Check.tell(x, "r".repeat(700)), -4);
@@ -175,36 +175,103 @@ final class EdgeTapeTest {
         Runs.run(x, "undo() -> -2", "anew() -> -2", "mark(0, 2) -> -2", "flue(0, 2) -> -2");
     }
 
-    /** "-4: a FAULT (all stays)": the ROOF, acts, SLOTS and the TAPE. */
+    /** "-4: a FAULT (all stays)": the ROOF, acts, SLOTS; the TAPE is empty then. */
     private static void roofRefused() {
         String[] faulty = {"!", "place 0 0;", "roof years 0", BARE + "place 31 0;", BARE.repeat(2),
             BARE + "place 0 0;".repeat(2), Runs.FULL + "place 1 1;", "roof"};
         for (String text : faulty) {
             HassockRoof x = Runs.of(Check.SMALL, "rate(1, 6)", "clear(1)", "swap(0, 1, 1)", "row(0, 0, 2)",
-                    "write(0, 1, 2)").get();
-            Check.feedText(x, text);
+                    "write(0, 1, 2)", "image(1)").get();
             List<Long> before = Runs.seen(x);
-            Runs.run(x, "roof() -> -4");
+            Check.due("a fault: " + text, Check.tell(x, text), -4);
             List<Long> behind = Runs.seen(x);
             Check.holds("there is a fault", x.fault(0) > 0 && x.fault(1) >= 0);
             // Numbers 12 and 13 are those of fault().
             before.subList(12, 14).clear();
             behind.subList(12, 14).clear();
             Check.holds("all stays behind a fault of " + text, before.equals(behind));
-            Runs.run(x, "count(10) -> " + text.length(), "roof() -> -4", "undo() -> 1", "undo() -> 0");
+            Runs.run(x, "count(10) -> 0", "undo() -> 1", "undo() -> 0", "back(1) -> 0", "count(8) -> 2");
         }
         HassockRoof x = new HassockRoof();
         Check.due("no roof ahead", Check.tell(x, "roof"), -4);
         Runs.run(x, "blind() -> -2", "count(9) -> 0", "count(0) -> 0");
     }
 
-    /** The TAPE that stayed can be cut and gone on with. */
-    private static void roofMendedBehindAFault() {
-        HassockRoof x = new HassockRoof();
+    /** "The TAPE (empty then)", behind a FAULT as well: nothing is there to be cut, or taken again. */
+    private static void roofEmptiesTheTapeBehindAFault() {
+        HassockRoof x = Runs.of(Check.SMALL).get();
         Check.due("a fault", Check.tell(x, BARE + "place 0 99;"), -4);
-        Runs.run(x, "fault(0) -> 2", "fault(1) -> 34", "end(34) -> 34");
-        Check.due("mended", Check.tell(x, "9;"), 2);
-        Runs.run(x, "place(0, 1) -> 9", "fault(0) -> 0", "fault(1) -> -1", "count(10) -> 0");
+        Runs.run(x, "fault(0) -> 2", "fault(1) -> 34", "count(10) -> 0", "end(1) -> -1", "end(0) -> 0", feeds(20));
+        Runs.run(x, "end(0) -> 0", "count(9) -> 13", "roof() -> 0", "fault(0) -> 0", "count(9) -> 0", "blind() -> -2");
+        x = new HassockRoof();
+        Check.due("a fault of 700 bytes", Check.tell(x, "!".repeat(700)), -4);
+        Runs.run(x, feeds(20));
+    }
+
+    /** A text, its FAULT and where, told to an object behind whatever it was told. */
+    private static void faulty(HassockRoof x, String text, int fault, int place) {
+        HassockRoof fresh = new HassockRoof();
+        for (HassockRoof one : List.of(fresh, x)) {
+            feedAlone(one, text);
+            Runs.run(one, "roof() -> -4", "fault(0) -> " + fault, "fault(1) -> " + place);
+        }
+    }
+
+    /** Feeds as one does who takes the TAPE to be empty: cut to the length of this text. */
+    private static void feedAlone(HassockRoof x, String text) {
+        for (int i = 0; i < text.length(); i += 20) {
+            int[] five = new int[5];
+            for (int k = i; k < i + 20 && k < text.length(); k++) {
+                five[(k - i) / 4] |= text.charAt(k) << 24 - 8 * (k % 4);
+            }
+            Check.due("feed", x.feed(five[0], five[1], five[2], five[3], five[4]), i + 20);
+        }
+        Runs.run(x, "end(" + text.length() + ") -> " + text.length());
+    }
+
+    /**
+     * Faulty texts one behind the other, then one that is right. The lengths are those of run 3 of
+     * the shared test, which has the same calls but for feed(): it is what shows that the TAPE is
+     * empty behind a FAULT.
+     */
+    private static void faultsOneBehindTheOther() {
+        HassockRoof x = new HassockRoof();
+        faulty(x, "roof years 0", 2, 11);
+        faulty(x, "roof years 13", 2, 11);
+        faulty(x, "roof years 1 law 4", 2, 17);
+        faulty(x, "roof years 1 law 0 odds 11", 2, 24);
+        faulty(x, "place", 1, 0);
+        faulty(x, BARE + "roof", 1, 26);
+        faulty(x, BARE + "place 31", 2, 32);
+        faulty(x, BARE + "place 0 31", 2, 34);
+        faulty(x, BARE + "place 1 1;mark 1 1", 2, 43);
+        faulty(x, BARE + "place 1 1;place 2 2;way 0 0;", 2, 52);
+        faulty(x, BARE + "place 1 1;place 1 1", 2, 44);
+        faulty(x, BARE + "mark 2 2 worth 100", 2, 41);
+        faulty(x, BARE + "looker at 0 hopes 0;", 2, 36);
+        faulty(x, BARE + "place 1 1;place 2 2;way 0 2", 2, 52);
+        faulty(x, BARE + "place 1 1;place 2 2;way 2", 2, 50);
+        faulty(x, BARE + "place 1 1;mark 2 2 worth 1;looker at 0;", 1, 64);
+        String places = "place 0 1;place 0 2;place 0 3;place 0 4;place 0 5;place 0 6;";
+        faulty(x, BARE + places + "place", 3, 86);
+        faulty(x, BARE + repeated("mark 0 # worth 1;", 1, 7) + "mark", 3, 145);
+        faulty(x, BARE + repeated("flue 0 #;", 1, 6) + "flue", 3, 80);
+        faulty(x, BARE + "place 1 1;place 2 2;" + "way 0 1;".repeat(10) + "way", 3, 126);
+        String six = BARE + places + "mark 9 9 worth 1;" + repeated("looker at # hopes 0;", 0, 5);
+        faulty(x, six + "looker", 3, 223);
+        faulty(x, BARE + "foo", 1, 26);
+        faulty(x, BARE + "place 1", 1, 33);
+        feedAlone(x, six);
+        Runs.run(x, "roof() -> 14", "fault(0) -> 0", "fault(1) -> -1", "at(0, 1) -> 1", "at(5, 1) -> 0", "reach() -> 1",
+                "roster() -> 6", "rosters() -> 720", "put(5) -> 5", "fair() -> 1", "watch() -> 1", "lot(0, 0, 1) -> 6");
+    }
+
+    private static String repeated(String line, int from, int to) {
+        StringBuilder text = new StringBuilder();
+        for (int i = from; i <= to; i++) {
+            text.append(line.replace("#", Integer.toString(i)));
+        }
+        return text.toString();
     }
 
     private static void faultAheadOfAny() {
