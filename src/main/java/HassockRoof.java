@@ -1755,6 +1755,8 @@ public final class HassockRoof {
         private final int[] distances = new int[MOST_ROWS];
         private final int[] queue = new int[MOST_ROWS];
         private final int[] row = new int[MOST_LOOKERS];
+        // WAYS are looked through once a spread: hundreds of rows ask for the same PLACES.
+        private final int[] near = new int[MOST_PLACES];
         int reached;
         int farthest;
 
@@ -1822,6 +1824,9 @@ public final class HassockRoof {
             for (int i = 0; i < MOST_ROWS; i++) {
                 distances[i] = NONE;
             }
+            for (int p = 0; p < MOST_PLACES; p++) {
+                near[p] = roof.neighbours(p);
+            }
             reached = 0;
             farthest = 0;
             visit(0);
@@ -1836,7 +1841,7 @@ public final class HassockRoof {
             int taken = taken();
             for (int l = 0; l < roof.lookers.size; l++) {
                 int spot = row[l];
-                int goals = roof.neighbours(spot) & ~taken;
+                int goals = nearTo(spot) & ~taken;
                 for (int p = 0; p < roof.places.size; p++) {
                     if ((goals >> p & 1) != 0) {
                         row[l] = p;
@@ -1845,6 +1850,10 @@ public final class HassockRoof {
                 }
                 row[l] = spot;
             }
+        }
+
+        private int nearTo(int place) {
+            return place >= 0 && place < MOST_PLACES ? near[place] : 0;
         }
 
         private void visit(int distance) {
