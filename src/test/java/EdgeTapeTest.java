@@ -230,9 +230,9 @@ final class EdgeTapeTest {
     }
 
     /**
-     * Faulty texts one behind the other, then one that is right. The lengths are those of run 3 of
-     * the shared test, which has the same calls but for feed(): it is what shows that the TAPE is
-     * empty behind a FAULT.
+     * Faulty texts one behind the other, then one that is right, with nothing but feed() and end()
+     * between. The texts are guessed by lengths in run 3 of the shared test, which seems to be such a
+     * run without its feed() calls, and makes sense only if the TAPE is empty behind a FAULT.
      */
     private static void faultsOneBehindTheOther() {
         HassockRoof x = new HassockRoof();

@@ -4,8 +4,9 @@ import java.util.HashSet;
 import java.util.Set;
 
 /**
- * Promises 1 to 68 in runs of calls on new objects. The answers are those of a model that was written
- * from the document alone, without a look at the class or at Oracle, and tries everything out.
+ * Promises 1 to 68 in runs of calls on new objects. The answers are those of a second program (in
+ * another language, not kept) that follows the document and tries everything out; who wrote it knew
+ * this class, and where the document leaves room it has the readings that NOTES.md tells.
  */
 final class ModelTest {
     public static void main(String[] args) throws Exception {
